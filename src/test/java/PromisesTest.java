@@ -141,6 +141,10 @@ public final class PromisesTest {
     fault("meadow 1;", 8);
     fault("pit 1;", 5);
     fault("well1;;", 6);
+    fault("well 1,", 6);
+    fault("bell 1;", 0);
+    fault("wellz 1;", 0);
+    fault("awell 1;", 0);
     String two = "well 1;pit 1 1;";
     fault(two + "way", 18);
     fault(two + "way;", 18);
@@ -206,6 +210,11 @@ public final class PromisesTest {
     Check.due("ruleOf(0, 1)", x.ruleOf(0, 1), 4);
     Check.due("plain() of nothing", x.plain(), 0);
     Check.due("many(0)", x.many(0), 0);
+    String four = "well1;well1;way0 1 1 1;way0 1 1 1;way0 1 1 1;way0 1 1 1;";
+    for (int time = 0; time < 3; time++) Check.due("four ways of one, again", Check.plain(x, four), 2);
+    Check.plain(x, "well1;");
+    x.place(1, 1, 1);
+    Check.due("a way of places that were others", x.way(0, 1, 1, 1, 0), 0);
   }
 
   private static void places() {
@@ -230,8 +239,8 @@ public final class PromisesTest {
 
   private static void ways() {
     Check.part("promise 5");
-    WheelCity x = Check.onPlain("well1;well1;well1;well1;well1;well1;well1;");
-    int[][] bad = {{-1, 0, 1, 1, 0}, {0, 7, 1, 1, 0}, {7, 0, 1, 1, 0}, {3, 3, 1, 1, 0}, {0, 1, 0, 1, 0}, {0, 1, 5, 1, 0},
+    WheelCity x = Check.onPlain("well1;well1;well1;well1;well1;well1;well1;well1;");
+    int[][] bad = {{-1, 0, 1, 1, 0}, {0, 8, 1, 1, 0}, {8, 0, 1, 1, 0}, {3, 3, 1, 1, 0}, {0, 1, 0, 1, 0}, {0, 1, 5, 1, 0},
       {0, 1, 1, -1, 0}, {0, 1, 1, 10, 0}, {0, 1, 1, 1, -1}, {0, 1, 1, 1, 4096}, {0, MIN, 1, 1, 0}};
     for (int[] b : bad) Check.due("way, a wrong one", x.way(b[0], b[1], b[2], b[3], b[4]), BAD);
     Check.due("many(1)", x.many(1), 0);
@@ -242,8 +251,8 @@ public final class PromisesTest {
     int[][] due = {{0, 1, 1, 9, 4095}, {0, 1, 2, 8, 4094}, {0, 1, 3, 7, 4093}, {0, 1, 4, 6, 4092}};
     for (int w = 0; w < 4; w++)
       for (int what = 0; what < 5; what++) Check.due("wayOf(" + w + ", " + what + ")", x.wayOf(w, what), due[w][what]);
-    for (int i = 0; i < 8; i++) Check.due("way", x.way(2 + i % 4, 2 + (i + 1) % 4, 1, 1, 0), 4 + i);
-    Check.due("way, a thirteenth", x.way(6, 5, 1, 1, 0), FULL);
+    for (int i = 0; i < 8; i++) Check.due("way", x.way(2 + i % 4, 2 + (i + 1) % 4, 1, 0, 0), 4 + i);
+    Check.due("way, a thirteenth", x.way(6, 7, 1, 1, 0), FULL);
     Check.due("way, a thirteenth of the same", x.way(6, 6, 1, 1, 0), BAD);
     Check.due("many(1)", x.many(1), 12);
   }
@@ -420,10 +429,13 @@ public final class PromisesTest {
     x.set(7, 0);
     x.city(0, 0, 0, 0);
     x.set(6, 20);
-    int[] due = {4, 8, 12, 14, 16, 18, 20, 20};
-    for (int day = 0; day < 8; day++) {
+    // A spring of 2 gives 4 in even MONTHS, else 2; 3 are eaten.
+    x.set(1, 3);
+    x.city(0, 0, 5, 0);
+    int[] due = {6, 7, 8, 7, 6, 5};
+    for (int day = 0; day < 99; day++) {
       x.does(0);
-      Check.due("WATER of a spring behind DAY " + day, x.cityOf(3), due[day]);
+      Check.due("WATER of a spring behind DAY " + day, x.cityOf(3), due[day % 6]);
     }
     int[] eaten = {3, 4, 5};
     for (int shed = 0; shed < 3; shed++) {
@@ -558,6 +570,12 @@ public final class PromisesTest {
     Check.due("best(2, 1)", y.best(2, 1), 1);
     Check.due("best(4, 0): the way bears once", y.best(4, 0), NONE);
     Check.due("BEARS is as it was", y.wayOf(0, 3), 1);
+    WheelCity v = Check.onPlain("place 0 0;place 0 0;place 0 0;mine 9 99;way0 1 1 9;way1 2 1 9;way2 3 1 9;");
+    v.city(2, 5, 5, 5);
+    Check.due("best(2, 1), from another place", v.best(2, 1), 3);
+    Check.due("best(2, 0), from another place", v.best(2, 0), 9 + 3 + 3);
+    v.city(1, 5, 5, 5);
+    Check.due("best(3, 1), two ways off", v.best(3, 1), 2);
     WheelCity z = Check.onPlain("meadow 5 99;");
     z.city(0, 9, 9, 0);
     Check.due("best(1, 0) without RAIN", z.best(1, 0), NONE);
@@ -705,8 +723,10 @@ public final class PromisesTest {
 
   private static void gate() {
     Check.part("promise 22");
-    WheelCity x = Check.onPlain("well1;well1;way0 1 1 0 in 0 and 8;way0 1 1 1;");
-    for (int wrong : new int[] {-1, 2, MIN, MAX}) Check.due("gate(" + wrong + ", 0)", x.gate(wrong, 0), BAD);
+    WheelCity x = Check.onPlain("well1;well1;way0 1 1 0 in 0 and 8;way0 1 1 1;way0 1 1 1 in 3;");
+    Check.due("gate(2, -1)", x.gate(2, -1), BAD);
+    Check.due("gate(2, 0)", x.gate(2, 0), 9);
+    for (int wrong : new int[] {-1, 3, MIN, MAX}) Check.due("gate(" + wrong + ", 0)", x.gate(wrong, 0), BAD);
     for (int wrong : new int[] {-1, 1000, MIN, MAX}) Check.due("gate(0, " + wrong + ")", x.gate(0, wrong), BAD);
     int[][] due = {{0, 0}, {2, 2}, {3, NONE}, {4, 24}, {23, 24}, {26, 26}, {27, 36}, {996, 996}, {998, 998}, {999, 1008}};
     for (int[] d : due) Check.due("gate(0, " + d[0] + ")", x.gate(0, d[0]), d[1]);
@@ -808,6 +828,14 @@ public final class PromisesTest {
     Check.due("next(0), the least of shortest beginnings", y.next(0), 1);
     y.city(0, 1, 2, 2);
     Check.due("next(0), none to which a way leads", y.next(0), 0);
+    WheelCity z = Check.onPlain("well 1;well 1;place 0 0;well 1;way2 0 2 9;way2 1 3 9;way2 3 1 9;");
+    z.rule(2, 0);
+    z.city(2, 2, 1, 2);
+    Check.due("next(0), the least FAR, though not the first", z.next(0), 3);
+    WheelCity v = Check.onPlain("well 1;place 0 0;way0 1 2 9;");
+    v.rule(2, 0);
+    v.city(1, 2, 1, 2);
+    Check.due("next(0), to the first PLACE", v.next(0), 1);
   }
 
   private static void loopRules() {
@@ -1041,6 +1069,9 @@ public final class PromisesTest {
     x.rule(1, 1);
     Check.due("taken(2, 1), another one", x.taken(2, 1), 0);
     Check.due("taken(2, 4), another one", x.taken(2, 4), -13);
+    x.sheet(3, 1, 6);
+    Check.due("shelf(3, 1, 3)", x.shelf(3, 1, 3), 1);
+    Check.due("taken(3, 11)", x.taken(3, 11), 6);
   }
 
   private static void acts(int kind, int a, int act, int x, int due, long... bodies) {
@@ -1168,5 +1199,29 @@ public final class PromisesTest {
     Check.due("many(6)", x.many(6), 0);
     Check.due("city(0, 1, 1, 1)", x.city(0, 1, 1, 1), 1);
     Check.due("many(6)", x.many(6), 1);
+    keptRules();
+  }
+
+  private static void keptRules() {
+    WheelCity x = Check.onPlain("place 0 0;");
+    Check.eatNothing(x);
+    x.city(0, 0, 0, 0);
+    x.keep();
+    x.rule(1, 5);
+    x.follow(0, 2);
+    x.again();
+    Check.due("rule(5, 6), behind one that is gone", x.rule(5, 6), 0);
+    Check.due("ruleOf(0, 0)", x.ruleOf(0, 0), 5);
+    Check.due("ruleOf(0, 1)", x.ruleOf(0, 1), 6);
+    Check.due("ruleOf(0, 2), it did none", x.ruleOf(0, 2), 0);
+    x.rule(2, 7);
+    x.keep();
+    x.follow(0, 1);
+    x.rule(3, 8);
+    x.again();
+    Check.due("ruleOf(0, 2), kept", x.ruleOf(0, 2), 0);
+    Check.due("ruleOf(1, 0), kept", x.ruleOf(1, 0), 2);
+    Check.due("ruleOf(1, 1), kept", x.ruleOf(1, 1), 7);
+    Check.due("ruleOf(2, 0), gone", x.ruleOf(2, 0), BAD);
   }
 }
