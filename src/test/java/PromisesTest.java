@@ -427,7 +427,6 @@ public final class PromisesTest {
     Check.due("LEFT without RAIN", x.placeOf(1, 2), 9);
     Check.eatNothing(x);
     x.set(7, 0);
-    x.city(0, 0, 0, 0);
     x.set(6, 20);
     // A spring of 2 gives 4 in even MONTHS, else 2; 3 are eaten.
     x.set(1, 3);
