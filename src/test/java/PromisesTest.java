@@ -167,6 +167,11 @@ public final class PromisesTest {
     fault(two + "way 0 1 1 1 inn 1;", 27);
     fault(two + "way 01 1 1 1;", 22);
     fault("way 0 1 1 1;well 1;well 1;", 4);
+    // Bytes that were used up must not be read again, nor any behind a full tape.
+    WheelCity x = Check.onPlain("pit 1 12;");
+    Check.due("plain() of a shorter text", Check.plain(x, "pit 1 1"), -107);
+    Check.due("plain() of a full tape", Check.plain(x, " ".repeat(195) + "pit 1"), -300);
+    Check.due("plain() of a full tape", Check.plain(x, " ".repeat(197) + "pit"), -300);
   }
 
   private static void faultsOfLimits() {
