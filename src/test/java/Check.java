@@ -31,13 +31,7 @@ final class Check {
   }
 
   static void feed(WheelCity x, String text) {
-    byte[] bytes = text.getBytes(StandardCharsets.ISO_8859_1);
-    for (int i = 0; i < bytes.length; i += 8) {
-      int n = Math.min(8, bytes.length - i);
-      long eight = 0;
-      for (int k = 0; k < n; k++) eight |= (bytes[i + k] & 255L) << 8 * k;
-      x.feed(eight, n);
-    }
+    for (Call call : Call.feeding(text.getBytes(StandardCharsets.ISO_8859_1))) call.on(x);
   }
 
   static int plain(WheelCity x, String text) {

@@ -1,4 +1,3 @@
-import java.nio.charset.StandardCharsets;
 import java.util.ArrayList;
 import java.util.Arrays;
 import java.util.List;
@@ -705,13 +704,5 @@ final class Oracle {
     if (kept == null) return NONE;
     now = kept.copy();
     return now.places.size();
-  }
-
-  /** A text as feed() takes it, eight bytes a call. */
-  static long[] eights(String text) {
-    byte[] bytes = text.getBytes(StandardCharsets.ISO_8859_1);
-    long[] eights = new long[(bytes.length + 7) / 8];
-    for (int i = 0; i < bytes.length; i++) eights[i / 8] |= (bytes[i] & 255L) << 8 * (i % 8);
-    return eights;
   }
 }

@@ -1,7 +1,5 @@
-import java.lang.reflect.Method;
-import java.lang.reflect.Modifier;
+import java.nio.charset.StandardCharsets;
 import java.util.ArrayList;
-import java.util.HashMap;
 import java.util.List;
 import java.util.Map;
 import java.util.Random;
@@ -9,12 +7,12 @@ import java.util.TreeMap;
 
 /** Random runs of calls, always the same ones, on WheelCity and on the Oracle: each answer must be the same. */
 public final class RandomRunsTest {
-  private static final int RUNS = 1500, CALLS = 200, TEXTS = 20000;
+  private static final int RUNS = 6000, TEXTS = 20000;
+  // What can be seen is looked at behind a run, within the calls that an object is promised for.
+  private static final int CALLS = Run.MOST_CALLS - Run.LOOK.size();
 
   /** Of each argument the range of numbers that mostly make sense. */
   private static final Map<String, int[]> RANGES = new TreeMap<>();
-  private static final Map<String, Method> REAL = new HashMap<>();
-  private static final Map<String, Method> DUE = new HashMap<>();
 
   static {
     RANGES.put("feed", new int[] {0, 0, 1, 8});
@@ -57,8 +55,6 @@ public final class RandomRunsTest {
     RANGES.put("plain", new int[] {});
     RANGES.put("keep", new int[] {});
     RANGES.put("again", new int[] {});
-    for (Method m : WheelCity.class.getDeclaredMethods()) if (Modifier.isPublic(m.getModifiers())) REAL.put(m.getName(), m);
-    for (Method m : Oracle.class.getDeclaredMethods()) if (Modifier.isPublic(m.getModifiers())) DUE.put(m.getName(), m);
   }
 
   private final Random random;
@@ -73,22 +69,19 @@ public final class RandomRunsTest {
     this.random = new Random(run * 7919L + 17);
   }
 
-  private void call(String name, long... args) throws ReflectiveOperationException {
+  private void call(Call call) {
     if (wrong) return;
-    Object[] boxed = new Object[args.length];
-    StringBuilder text = new StringBuilder(name).append('(');
-    for (int i = 0; i < args.length; i++) {
-      if (REAL.get(name).getParameterTypes()[i] == long.class) boxed[i] = args[i];
-      else boxed[i] = (int) args[i];
-      text.append(i > 0 ? ", " : "").append(args[i]);
-    }
-    Object got = REAL.get(name).invoke(city, boxed);
-    Object want = DUE.get(name).invoke(oracle, boxed);
-    told.add(text.append(") -> ").append(got).toString());
-    if (!got.equals(want)) {
+    int got = call.on(city);
+    int want = call.on(oracle);
+    told.add(call + " -> " + got);
+    if (got != want) {
       wrong = true;
       System.out.println("run " + run + ", due is " + want + " at the end of: " + String.join("; ", told));
     }
+  }
+
+  private void call(String name, long... args) {
+    call(new Call(name, args));
   }
 
   private int within(int low, int high) {
@@ -106,7 +99,7 @@ public final class RandomRunsTest {
     }
   }
 
-  private void callAtRandom(String name) throws ReflectiveOperationException {
+  private void callAtRandom(String name) {
     int[] range = RANGES.get(name);
     long[] args = new long[range.length / 2];
     for (int i = 0; i < args.length; i++) args[i] = argument(range[2 * i], range[2 * i + 1]);
@@ -159,25 +152,17 @@ public final class RandomRunsTest {
     return s.toString();
   }
 
-  private void feedText(String text) throws ReflectiveOperationException {
-    long[] eights = Oracle.eights(text);
-    for (int i = 0; i < eights.length; i++) call("feed", eights[i], Math.min(8, text.length() - 8 * i));
+  private void feedText(String text) {
+    Call.feeding(text.getBytes(StandardCharsets.ISO_8859_1)).forEach(this::call);
     call("plain");
   }
 
-  private void lookAtAll() throws ReflectiveOperationException {
-    for (int i = 0; i < 7; i++) call("many", i);
-    for (int i = 0; i < 7; i++) call("cityOf", i);
-    for (int p = 0; p < 8; p++) for (int i = 0; i < 3; i++) call("placeOf", p, i);
-    for (int w = 0; w < 12; w++) for (int i = 0; i < 5; i++) call("wayOf", w, i);
-    for (int r = 0; r < 4; r++) for (int i = 0; i < 3; i++) call("ruleOf", r, i);
-    for (int r = 0; r < 6; r++) for (int i = 0; i < 3; i++) call("row", r, i);
-    for (int i = 0; i < 12; i++) call("trace", i);
-    for (int s = 0; s < 4; s++) for (int a = 0; a < 14; a++) call("taken", s, a);
-    for (int s = 0; s < 4; s++) for (int t = 0; t < 4; t++) for (int i = 0; i < 41; i++) call("item", s, t, i);
+  private boolean looksTheSame() {
+    Run.LOOK.forEach(this::call);
+    return !wrong;
   }
 
-  private void build() throws ReflectiveOperationException {
+  private void build() {
     int places = within(2, 8);
     for (int i = 0; i < places; i++) callAtRandom("place");
     int ways = within(1, 12);
@@ -193,31 +178,29 @@ public final class RandomRunsTest {
     call("city", within(0, places - 1), within(0, 20), within(0, 20), within(0, 20));
   }
 
-  private boolean passes() throws ReflectiveOperationException {
+  private boolean passes() {
     String[] names = RANGES.keySet().toArray(new String[0]);
     if (random.nextBoolean()) feedText(text());
     else build();
-    for (int i = 0; i < CALLS && !wrong; i++) {
+    while (told.size() < CALLS && !wrong) {
       String name = names[random.nextInt(names.length)];
       // A plain that is lost each few calls would show little of what comes behind it.
       if (name.equals("plain") && random.nextInt(8) > 0) continue;
       if (name.equals("city") && random.nextInt(3) > 0) name = "does";
       if (name.equals("again") && random.nextInt(3) > 0) name = "follow";
       callAtRandom(name);
-      if (i % 40 == 39) lookAtAll();
     }
-    return !wrong;
+    return looksTheSame();
   }
 
-  private boolean readsTexts() throws ReflectiveOperationException {
+  private boolean readsTexts() {
     feedText(text());
-    lookAtAll();
-    return !wrong;
+    return looksTheSame();
   }
 
-  public static void main(String[] args) throws ReflectiveOperationException {
+  public static void main(String[] args) {
     int bad = 0;
-    if (!REAL.keySet().equals(RANGES.keySet()) || !DUE.keySet().equals(RANGES.keySet())) {
+    if (!RANGES.keySet().equals(Call.face(WheelCity.class).keySet()) || !RANGES.keySet().equals(Call.face(Oracle.class).keySet())) {
       System.out.println("the calls of WheelCity, Oracle and this test are not the same ones");
       bad++;
     }

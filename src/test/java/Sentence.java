@@ -1,0 +1,38 @@
+import java.io.IOException;
+import java.nio.file.Files;
+import java.nio.file.Path;
+import java.util.Set;
+import java.util.TreeSet;
+
+/** Names the sentence that a test is of; a test must quote the document as it is written. */
+final class Sentence {
+  private static final Path DOCUMENT = Path.of("../shared/DOC.md");
+  private static final int PROMISES = 41;
+  private static final Set<Integer> TESTED = new TreeSet<>();
+  private static String document = null;
+
+  private Sentence() {
+  }
+
+  private static String document() throws IOException {
+    if (document == null) document = Files.readString(DOCUMENT);
+    return document;
+  }
+
+  /** What the promise itself says, or, if it isn't there, the terms that it is told by. */
+  static void of(int promise, String quote) {
+    Check.part("promise " + promise + ", '" + quote + "'");
+    TESTED.add(promise);
+    try {
+      if (!document().contains(quote)) Check.due("the document says this", 0, 1);
+    } catch (IOException missing) {
+      Check.due("the document can be read: " + missing, 0, 1);
+    }
+  }
+
+  static void eachPromiseWasTested() {
+    Check.part("all promises");
+    for (int promise = 1; promise <= PROMISES; promise++)
+      if (!TESTED.contains(promise)) Check.due("promise " + promise + " has a test here", 0, 1);
+  }
+}
