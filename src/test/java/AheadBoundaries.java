@@ -12,6 +12,7 @@ final class AheadBoundaries {
     noRowOfBest();
     daysJust();
     theLeastFirstAct();
+    fullPlain();
     lastOf0To6();
     daysOfSurest();
     noDaysOfSurest();
@@ -54,7 +55,8 @@ final class AheadBoundaries {
   private static void noDaysOfBest() {
     Sentence.of(15, "-9: days is 0");
     Run run = Run.on("place 0 0;").refuses(-4, "best(0, 1)").make("city(0, 2, 3, 4)");
-    run.asks("best(0, 1)", -9).asks("best(0, 0)", 9).make("city(0, 0, 0, 0)").asks("best(0, 1)", -9).asks("best(0, 0)", 0)
+    run.asks("best(0, 1)", -9).asks("best(0, 0)", 9).make("city(0, 0, 0, 0)").asks("best(0, 1)", -9)
+        .asks("best(0, 0)", 0)
         .asks("best(1, 1)", -3);
   }
 
@@ -63,16 +65,19 @@ final class AheadBoundaries {
     Run.on("place 0 0;").make("city(0, 3, 3, 3)").asks("best(3, 0)", 0).asks("best(3, 1)", 0)
         .refuses(-3, "best(4, 0); best(4, 1); best(6, 0); best(6, 1)");
     // It is worth nothing, and yet there is a row.
-    Run.on("place 0 0;").make("set(8, 0); set(9, 0); set(10, 0); city(0, 6, 6, 6)").asks("best(6, 0)", 0).asks("best(6, 1)", 0);
+    Run.on("place 0 0;").make("set(8, 0); set(9, 0); set(10, 0); city(0, 6, 6, 6)").asks("best(6, 0)", 0)
+        .asks("best(6, 1)", 0);
   }
 
   private static void daysJust() {
     Sentence.of(15, "rows of ACTS that take d DAYS just");
     // It can't stand: only rows of 4 days are there.
     Run run = Run.on(WAY_OF_4).make("set(0, 5); city(0, 4, 9, 9)");
-    run.refuses(-3, "best(1, 0); best(2, 0); best(3, 0); best(5, 0); best(6, 1)").asks("best(4, 0)", 10).asks("best(4, 1)", 1);
+    run.refuses(-3, "best(1, 0); best(2, 0); best(3, 0); best(5, 0); best(6, 1)").asks("best(4, 0)", 10)
+        .asks("best(4, 1)", 1);
     // A row with an act that would go beyond isn't one.
-    Run.on(WAY_OF_4).make("set(0, 4); set(3, 0); city(0, 4, 9, 9)").asks("best(1, 1)", 0).refuses(-3, "best(2, 0); best(3, 1)")
+    Run.on(WAY_OF_4).make("set(0, 4); set(3, 0); city(0, 4, 9, 9)").asks("best(1, 1)", 0)
+        .refuses(-3, "best(2, 0); best(3, 1)")
         .asks("best(4, 1)", 1).asks("best(5, 0)", 8);
   }
 
@@ -84,6 +89,30 @@ final class AheadBoundaries {
     Run run = Run.on("well1;well1;well1;well1;well1;well1;");
     for (int i = 0; i < 12; i++) run.make("way(" + i % 6 + ", " + (i + 1) % 6 + ", 1, " + (i < 11 ? 0 : 1) + ", 0)");
     run.make("set(1, 5); set(4, 0); city(0, 9, 4, 9)").asks("best(1, 1)", 12).asks("best(1, 0)", 20);
+  }
+
+  /** Eight places and twelve ways, of which the last four are of the last place, where the city is; the last one bears. */
+  private static Run atTheLastPlace(int bears) {
+    Run run = Run.on("place 0 0;".repeat(7) + "mine 0 0;");
+    for (int i = 0; i < 8; i++) run.make("way(" + i % 4 + ", " + (i + 1) % 4 + ", 1, 9, 0)");
+    for (int i = 4; i < 7; i++) run.make("way(" + i + ", 7, 1, 0, 0)");
+    return run.make("way(7, 6, 2, " + bears + ", 0); set(0, 5); city(7, 4, 9, 9)").due("many(0)", 8).due("many(1)", 12);
+  }
+
+  private static void fullPlain() {
+    Sentence.of(15, "WAYS, 12 at most, numbered as they come");
+    Run run = atTheLastPlace(1).asks("stuck()", 0).asks("last()", 2).refuses(-3, "best(1, 0)").asks("best(2, 0)", 16)
+        .asks("best(2, 1)", 12).asks("light(2)", 0).refuses(-3, "light(1); light(3)").asks("may(12)", 1)
+        .asks("may(11)", 0);
+    sure(run, 2, 1, 1);
+    sure(run, 3, 0, 1);
+    run.asks("far(7, 6)", 1).asks("far(7, 4)", 1).refuses(-3, "far(7, 3); meet(0); party(0)").asks("meet(6)", 1)
+        .asks("meet(4)", 1)
+        .make("rule(2, 0); city(6, 0, 9, 9)").asks("next(0)", 11).due("city(5, 0, 9, 9)", 1).asks("next(0)", 10);
+    // Where no way bears, none of another place is taken instead.
+    Run none = atTheLastPlace(0).asks("stuck()", 1).asks("last()", 0)
+        .refuses(-3, "best(1, 1); best(2, 1); light(2); prove(2)");
+    sure(none, 1, 0, 1);
   }
 
   private static void lastOf0To6() {
@@ -231,12 +260,14 @@ final class AheadBoundaries {
     sure(onDay(996), 4, 0, 1);
     sure(onDay(999), 0, 1, 1);
     sure(onDay(999), 1, 0, 1);
-    onDay(997).asks("last()", 2).asks("best(2, 0)", 0).refuses(-3, "best(3, 0)").asks("light(2)", 0).refuses(-3, "light(3)");
+    onDay(997).asks("last()", 2).asks("best(2, 0)", 0).refuses(-3, "best(3, 0)").asks("light(2)", 0)
+        .refuses(-3, "light(3)");
   }
 
   private static void daysOfLight() {
     Sentence.of(18, "LIGHT by days (0 to 6). BAD; STATE: there is no CITY");
-    Run.on("place 0 0;").refuses(-4, "light(0); light(6)").refuses(-1, "light(-1); light(7)").make("set(7, 5); city(0, 6, 20, 6)")
+    Run.on("place 0 0;").refuses(-4, "light(0); light(6)").refuses(-1, "light(-1); light(7)")
+        .make("set(7, 5); city(0, 6, 20, 6)")
         .refuses(-1, "light(-1); light(7); light(MIN); light(MAX)").asks("light(0)", 5).asks("light(6)", 2);
   }
 
@@ -253,17 +284,20 @@ final class AheadBoundaries {
 
   private static void noHouseAtAll() {
     Sentence.of(18, "NONE: not even with none.");
-    Run.on("place 0 0;").make("set(7, 5); city(0, 20, 3, 20)").asks("light(3)", 0).refuses(-3, "light(4); light(5); light(6)");
+    Run.on("place 0 0;").make("set(7, 5); city(0, 20, 3, 20)").asks("light(3)", 0)
+        .refuses(-3, "light(4); light(5); light(6)");
     // Not by WATER: fewer HOUSES don't help.
     Run.on("place 0 0;").make("set(7, 1); city(0, 1, 20, 20)").asks("light(1)", 1).refuses(-3, "light(2)");
     Run.on("place 0 0;").make("set(7, 5); city(0, 0, 0, 0)").asks("light(0)", 5).refuses(-3, "light(1)");
-    Run.on(WAY_OF_4).make("set(0, 5); set(7, 2); city(0, 4, 11, 4)").refuses(-3, "light(1); light(3)").asks("light(4)", 1);
+    Run.on(WAY_OF_4).make("set(0, 5); set(7, 2); city(0, 4, 11, 4)").refuses(-3, "light(1); light(3)")
+        .asks("light(4)", 1);
   }
 
   private static void placesOfFar() {
     Sentence.of(19, "FAR. BAD; NONE: no way leads there.");
     new Run().refuses(-1, "far(0, 0); far(-1, -1)");
-    Run.on("well 1;well 1;way 0 1 4 9;").refuses(-1, "far(-1, 0); far(0, -1); far(2, 0); far(0, 2); far(MIN, 0); far(0, MAX)")
+    Run.on("well 1;well 1;way 0 1 4 9;")
+        .refuses(-1, "far(-1, 0); far(0, -1); far(2, 0); far(0, 2); far(MIN, 0); far(0, MAX)")
         .refuses(-1, "far(2, 2); far(-1, -1); far(8, 8)").asks("far(0, 1)", 4).asks("far(1, 0)", 4);
   }
 
@@ -274,10 +308,12 @@ final class AheadBoundaries {
 
   private static void noWayLeadsThere() {
     Sentence.of(19, "DAYS of the shortest ways (by LONG alone)");
-    Run.on("well1;well1;well1;well1;way0 1 1 0;way2 3 1 9;").asks("far(0, 1)", 1).refuses(-3, "far(0, 2); far(2, 0); far(1, 3)");
+    Run.on("well1;well1;well1;well1;way0 1 1 0;way2 3 1 9;").asks("far(0, 1)", 1)
+        .refuses(-3, "far(0, 2); far(2, 0); far(1, 3)");
     // Over all eight places, whatever the order in which the ways were told; a way round that is shorter.
     Run run = Run.on("well1;".repeat(8) + "way6 7 4 0;way5 6 4 0;way4 5 4 0;way3 4 4 0;way2 3 4 0;way1 2 4 0;way0 1 4 0;");
-    run.asks("far(0, 7)", 28).asks("far(7, 0)", 28).make("way(0, 2, 1, 0, 1)").asks("far(0, 7)", 21).asks("far(0, 1)", 4)
+    run.asks("far(0, 7)", 28).asks("far(7, 0)", 28).make("way(0, 2, 1, 0, 1)").asks("far(0, 7)", 21)
+        .asks("far(0, 1)", 4)
         .make("way(7, 0, 4, 9, 0)").asks("far(0, 7)", 4).asks("far(6, 0)", 8);
     // Not by BEARS now, and also without a CITY.
     Run.on("well1;well1;way0 1 2 1;").make("city(0, 9, 9, 9); does(1)").asks("far(0, 1)", 2);
@@ -288,17 +324,20 @@ final class AheadBoundaries {
     Run run = Run.on("well1;well1;well1;well1;well1;way0 1 1 0;way1 2 2 9;way2 3 4 9 in 7;");
     run.refuses(-1, "meet(-1); meet(5); meet(MIN); meet(MAX)").refuses(-4, "meet(0); meet(4)").make("city(0, 0, 0, 0)");
     run.refuses(-1, "meet(-1); meet(5); meet(MIN); meet(MAX)").asks("meet(0)", 0).asks("meet(1)", 1).asks("meet(2)", 2)
-        .asks("meet(3)", 4).refuses(-3, "meet(4)").make("city(4, 0, 0, 0)").asks("meet(4)", 0).refuses(-3, "meet(0); meet(3)");
+        .asks("meet(3)", 4).refuses(-3, "meet(4)").make("city(4, 0, 0, 0)").asks("meet(4)", 0)
+        .refuses(-3, "meet(0); meet(3)");
     Sentence.of(20, "the least number of DAYS in which both could be at one PLACE (by FAR)");
     // In the middle it is less than at either end; one that is as far for both is found behind others.
-    Run.on("well1;well1;well1;way0 1 4 9;way0 2 3 9;way2 1 3 9;").make("city(0, 0, 0, 0)").asks("meet(1)", 3).asks("meet(2)", 3);
+    Run.on("well1;well1;well1;way0 1 4 9;way0 2 3 9;way2 1 3 9;").make("city(0, 0, 0, 0)").asks("meet(1)", 3)
+        .asks("meet(2)", 3);
   }
 
   private static void placesOfParties() {
     Sentence.of(21, "BAD; STATE: there is no CITY; NONE: no way leads there.");
     Run run = Run.on("well 3;well 4;well 5;way 0 1 4 0;").refuses(-1, "party(-1); party(3); party(MIN); party(MAX)")
         .refuses(-4, "party(0); party(2)").make("city(0, 0, 0, 0)");
-    run.refuses(-1, "party(-1); party(3); party(MIN); party(MAX)").asks("party(0)", 3).asks("party(1)", 4).refuses(-3, "party(2)")
+    run.refuses(-1, "party(-1); party(3); party(MIN); party(MAX)").asks("party(0)", 3).asks("party(1)", 4)
+        .refuses(-3, "party(2)")
         .make("city(2, 0, 0, 0)").refuses(-3, "party(0); party(1)").asks("party(2)", 5);
     // A place to which no way leads is NONE, though it would be 0.
     Run.on("well 3;place 9 9;").make("city(0, 0, 0, 0)").refuses(-3, "party(1)");
@@ -317,14 +356,16 @@ final class AheadBoundaries {
     Run.on("mine 9 99;").make("set(6, 0); city(0, 0, 0, 0)").asks("party(0)", 0).make("set(6, 20)").asks("party(0)", 9);
     Sentence.of(21, "(RAIN and MONTHS don't count)");
     Run.on("meadow 4 9;").make("rain(0); city(0, 0, 0, 0)").asks("party(0)", 4).make("rain(-1)").asks("party(0)", 4);
-    Run.on("spring 4;").make("city(0, 9, 0, 9)").asks("party(0)", 4).make("does(0); does(0); does(0)").due("cityOf(5)", 1)
+    Run.on("spring 4;").make("city(0, 9, 0, 9)").asks("party(0)", 4).make("does(0); does(0); does(0)")
+        .due("cityOf(5)", 1)
         .make("set(6, 20)").asks("party(0)", 4);
   }
 
   private static void waysOfGate() {
     Sentence.of(22, "with a MONTH in which a WAY can be gone. BAD; NONE.");
     new Run().refuses(-1, "gate(0, 0)");
-    Run.on("well1;well1;way0 1 1 0;way0 1 1 9 in 0;").refuses(-1, "gate(-1, 0); gate(2, 0); gate(12, 0); gate(MIN, 0); gate(MAX, 0)")
+    Run.on("well1;well1;way0 1 1 0;way0 1 1 9 in 0;")
+        .refuses(-1, "gate(-1, 0); gate(2, 0); gate(12, 0); gate(MIN, 0); gate(MAX, 0)")
         .asks("gate(0, 0)", 0).asks("gate(1, 0)", 0).refuses(-3, "gate(1, 3)");
   }
 
@@ -332,7 +373,8 @@ final class AheadBoundaries {
     Sentence.of(22, "The first DAY from one on (0 to 999)");
     Run.on("well1;well1;way0 1 1 9;way0 1 1 9 in 0;way0 1 1 9 in 1;")
         .refuses(-1, "gate(0, -1); gate(0, 1000); gate(0, MIN); gate(0, MAX); gate(2, -1); gate(1, 1000)")
-        .asks("gate(0, 0)", 0).asks("gate(0, 999)", 999).asks("gate(1, 2)", 2).asks("gate(2, 0)", 3).asks("gate(2, 2)", 3)
+        .asks("gate(0, 0)", 0).asks("gate(0, 999)", 999).asks("gate(1, 2)", 2).asks("gate(2, 0)", 3)
+        .asks("gate(2, 2)", 3)
         .asks("gate(2, 3)", 3).asks("gate(2, 5)", 5);
   }
 
@@ -341,7 +383,8 @@ final class AheadBoundaries {
     // MONTH 0 comes again on DAY 36.
     Run.on("well1;well1;way0 1 1 9 in 0;way0 1 1 9 in 11;").refuses(-3, "gate(0, 3); gate(0, 14); gate(0, 15)")
         .asks("gate(0, 16)", 36).asks("gate(0, 17)", 36).asks("gate(0, 35)", 36).asks("gate(0, 38)", 38)
-        .refuses(-3, "gate(1, 0); gate(1, 12)").asks("gate(1, 13)", 33).asks("gate(1, 35)", 35).refuses(-3, "gate(1, 36)");
+        .refuses(-3, "gate(1, 0); gate(1, 12)").asks("gate(1, 13)", 33).asks("gate(1, 35)", 35)
+        .refuses(-3, "gate(1, 36)");
   }
 
   private static void behindTheLastDay() {
@@ -361,12 +404,16 @@ final class AheadBoundaries {
 
   private static void sheetsOfRounds() {
     Sentence.of(23, "BAD: no such SHEET, what; STATE: there is no CITY; -11; -13.");
-    Run run = Run.on("well 1;").refuses(-1, "round(-1, 0); round(4, 0); round(0, -1); round(0, 2); round(MIN, 0); round(0, MAX)")
-        .refuses(-4, "round(0, 0); round(3, 1)").make("sheet(0, 1, 1)").refuses(-4, "round(0, 0)").make("sheet(0, -1, 0)");
-    run.make("city(0, 9, 9, 9)").refuses(-1, "round(-1, 0); round(4, 1); round(0, -1); round(0, 2); round(MAX, 0); round(0, MIN)")
+    Run run = Run.on("well 1;")
+        .refuses(-1, "round(-1, 0); round(4, 0); round(0, -1); round(0, 2); round(MIN, 0); round(0, MAX)")
+        .refuses(-4, "round(0, 0); round(3, 1)").make("sheet(0, 1, 1)").refuses(-4, "round(0, 0)")
+        .make("sheet(0, -1, 0)");
+    run.make("city(0, 9, 9, 9)")
+        .refuses(-1, "round(-1, 0); round(4, 1); round(0, -1); round(0, 2); round(MAX, 0); round(0, MIN)")
         .refuses(-11, "round(0, 0); round(0, 1); round(3, 0)");
     for (int sort = 1; sort < 4; sort++) {
-      run.make("sheet(3, " + sort + ", 1)").refuses(-13, "round(3, 0); round(3, 1)").refuses(-1, "round(3, 2); round(4, 0)");
+      run.make("sheet(3, " + sort + ", 1)").refuses(-13, "round(3, 0); round(3, 1)")
+          .refuses(-1, "round(3, 2); round(4, 0)");
     }
     run.make("sheet(3, 3, 0)").refuses(-13, "round(3, 0)").make("sheet(3, -1, 0)").refuses(-11, "round(3, 1)");
   }
@@ -412,7 +459,8 @@ final class AheadBoundaries {
     // It counts from now on, not from what was told: what is dug out and worn out stays so.
     round(Run.on("mine 9 5;").eatsNothing().make("city(0, 0, 0, 0); does(0)"), "0", 1, 1);
     // The last PLACE and the last WAY count, too.
-    round(Run.on("place 0 0;place 0 0;mine 1 9;way 0 1 1 9;way 0 2 1 9;").eatsNothing().make("city(0, 0, 0, 0)"), "2 0 2", 3, 0);
+    round(Run.on("place 0 0;place 0 0;mine 1 9;way 0 1 1 9;way 0 2 1 9;").eatsNothing()
+        .make("city(0, 0, 0, 0)"), "2 0 2", 3, 0);
     round(Run.on("place 0 0;place 0 0;way 0 1 1 9;way 0 1 1 5;").eatsNothing().make("city(0, 0, 0, 0)"), "1 2", 2, 0);
   }
 

@@ -47,13 +47,15 @@ final class CityBoundaries {
     Sentence.of(10, "The CITY is at a PLACE, on DAY 0");
     new Run().refuses(-1, "city(0, 1, 1, 1)");
     Run.on("well 1;well 1;").refuses(-1, "city(-1, 1, 1, 1); city(2, 1, 1, 1); city(MIN, 1, 1, 1); city(MAX, 1, 1, 1)")
-        .due("city(1, 1, 1, 1)", 1).dueCity(1, 0, 1, 1, 1).make("does(0)").due("cityOf(1)", 1).due("city(0, 2, 2, 2)", 1)
+        .due("city(1, 1, 1, 1)", 1).dueCity(1, 0, 1, 1, 1).make("does(0)").due("cityOf(1)", 1)
+        .due("city(0, 2, 2, 2)", 1)
         .dueCity(0, 0, 2, 2, 2).refuses(-1, "city(2, 0, 0, 0); city(-1, 0, 0, 0)");
   }
 
   private static void shedsOfACity() {
     Sentence.of(10, "with SHEDS (0 to 20 each)");
-    Run run = Run.on("place 0 0;").refuses(-1, "city(0, -1, 1, 1); city(0, 21, 1, 1); city(0, 1, -1, 1); city(0, 1, 21, 1)")
+    Run run = Run.on("place 0 0;")
+        .refuses(-1, "city(0, -1, 1, 1); city(0, 21, 1, 1); city(0, 1, -1, 1); city(0, 1, 21, 1)")
         .refuses(-1, "city(0, 1, 1, -1); city(0, 1, 1, 21); city(0, MIN, 1, 1); city(0, 1, MAX, 1); city(0, 1, 1, MIN)");
     run.due("city(0, 0, 0, 0)", 1).dueCity(0, 0, 0, 0, 0).due("city(0, 20, 20, 20)", 1).dueCity(0, 0, 20, 20, 20)
         .due("city(0, 0, 20, 7)", 1).dueCity(0, 0, 0, 20, 7).refuses(-1, "city(0, 0, 0, 21); city(0, -1, 0, 0)");
@@ -93,7 +95,8 @@ final class CityBoundaries {
   private static void badAheadOfState() {
     Sentence.of(11, "of several the first that the call's line names");
     // Without a city and with a wrong number it is BAD, in each call that can answer both.
-    Run.on("well 1;well 1;way 0 1 1 1;").make("rule(1, 1)").refuses(-1, "cityOf(7); may(13); does(-1); best(7, 0); best(0, 2)")
+    Run.on("well 1;well 1;way 0 1 1 1;").make("rule(1, 1)")
+        .refuses(-1, "cityOf(7); may(13); does(-1); best(7, 0); best(0, 2)")
         .refuses(-1, "surest(5, 0); surest(0, 2); light(7); meet(2); party(2); round(4, 0); round(0, 2); next(1)")
         .refuses(-1, "follow(1, 0); follow(0, 21); prove(7); prove(-1)");
   }
@@ -115,7 +118,8 @@ final class CityBoundaries {
     Sentence.of(11, "WORTH: of all that is in SHEDS, and of HOUSES.");
     Run.on("place 0 0;").make("city(0, 20, 20, 20); set(8, 9); set(9, 9); set(10, 9); set(11, 9); set(7, 5)")
         .due("cityOf(6)", 585).make("set(8, 0); set(9, 0); set(10, 0)").due("cityOf(6)", 45).make("set(11, 0)")
-        .due("cityOf(6)", 0).make("city(0, 0, 0, 0); set(11, 5)").due("cityOf(6)", 25).make("set(7, 0)").due("cityOf(6)", 0);
+        .due("cityOf(6)", 0).make("city(0, 0, 0, 0); set(11, 5)").due("cityOf(6)", 25).make("set(7, 0)")
+        .due("cityOf(6)", 0);
     Run.on("place 0 0;").make("city(0, 1, 2, 4); set(8, 2); set(9, 3); set(10, 5)").due("cityOf(6)", 28);
   }
 
@@ -142,7 +146,8 @@ final class CityBoundaries {
     Sentence.of(12, "BAD; STATE: there is no CITY.");
     Run.on("well 1;").refuses(-4, "may(0); may(1); may(12)");
     Sentence.of(13, "STATE: there is no CITY; NONE: it can't be.");
-    Run.on("well 1;").refuses(-4, "does(0); does(1); does(12)").make("city(0, 0, 0, 0)").refuses(-3, "does(0); does(1); does(12)");
+    Run.on("well 1;").refuses(-4, "does(0); does(1); does(12)").make("city(0, 0, 0, 0)")
+        .refuses(-3, "does(0); does(1); does(12)");
     Run.on("well 1;").make("city(0, 5, 5, 5); plain()").refuses(-4, "does(0); may(0); stuck(); cityOf(0)");
   }
 
@@ -192,12 +197,14 @@ final class CityBoundaries {
     stands("meadow 3 9;", "5, 5, 20", 4, 4, 19, 9);
     stands("spring 9;", "5, 10, 5", 4, 9, 4, 99);
     Run.on("mine 9 99;").make("set(6, 0); city(0, 1, 1, 1); does(0)").dueCity(0, 1, 0, 0, 0).due("placeOf(0, 2)", 99);
-    Run.on("mine 9 99;").make("set(6, 20); city(0, 12, 1, 1); does(0)").dueCity(0, 1, 19, 0, 0).due("placeOf(0, 2)", 91);
+    Run.on("mine 9 99;").make("set(6, 20); city(0, 12, 1, 1); does(0)").dueCity(0, 1, 19, 0, 0)
+        .due("placeOf(0, 2)", 91);
   }
 
   private static void leftIsLess() {
     Sentence.of(13, "LEFT is less by that (of a pit by twice that; of wells and springs it stays)");
-    Run.on("mine 2 3;").make("city(0, 5, 9, 9); does(0)").due("placeOf(0, 2)", 1).make("does(0)").due("placeOf(0, 2)", 0)
+    Run.on("mine 2 3;").make("city(0, 5, 9, 9); does(0)").due("placeOf(0, 2)", 1).make("does(0)")
+        .due("placeOf(0, 2)", 0)
         .make("does(0)").due("placeOf(0, 2)", 0).due("cityOf(2)", 5);
     Run.on("pit 2 5;").make("city(0, 5, 9, 9); does(0)").due("placeOf(0, 2)", 1).make("does(0)").due("placeOf(0, 2)", 1)
         .due("cityOf(2)", 5);
@@ -218,7 +225,8 @@ final class CityBoundaries {
     for (int[] d : due) {
       Run run = Run.on("place 0 0;spring 1;way 0 1 1 9;").eatsNothing().make("rule(1, 0); city(0, 0, 0, 0)");
       for (int i = 0; i < (d[0] - 1) / 20; i++) run.make("follow(0, 20)");
-      run.make("follow(0, " + (d[0] - 1) % 20 + "); does(1)").due("cityOf(1)", d[0]).due("does(0)", 1).due("cityOf(3)", d[1]);
+      run.make("follow(0, " + (d[0] - 1) % 20 + "); does(1)").due("cityOf(1)", d[0]).due("does(0)", 1)
+          .due("cityOf(3)", d[1]);
     }
     stands("spring 9;", "5, 0, 5", 4, 9, 4, 99);
     Run.on("spring 9;").make("set(6, 20); city(0, 5, 1, 5); does(0)").due("cityOf(3)", 18);

@@ -63,7 +63,8 @@ final class HostBoundaries {
 
   private static void missingSheets() {
     Sentence.of(32, "or missing (sort -1; n counts nothing then): 1");
-    new Run().due("sheet(0, -1, 41)", 1).due("sheet(1, -1, -1)", 1).due("sheet(2, -1, MIN)", 1).due("sheet(3, -1, MAX)", 1)
+    new Run().due("sheet(0, -1, 41)", 1).due("sheet(1, -1, -1)", 1).due("sheet(2, -1, MIN)", 1)
+        .due("sheet(3, -1, MAX)", 1)
         .refuses(-11, "item(0, 0, 0); item(1, 0, 0); item(2, 0, 0); item(3, 0, 0)");
     new Run().due("sheet(2, 1, 5)", 1).asks("item(2, 1, 4)", 0).due("sheet(2, -1, 5)", 1)
         .refuses(-11, "item(2, 1, 4); put(2, 4, 1); item(2, 1, 9)");
@@ -71,7 +72,8 @@ final class HostBoundaries {
 
   private static void sheetsBecomeNew() {
     Sentence.of(32, "A SHEET becomes a row of n of a sort, all 0");
-    Run run = new Run().make("sheet(0, 2, 3); put(0, 0, 7); put(0, 2, 9); sheet(1, 2, 3); put(1, 2, 8)").due("sheet(0, 2, 3)", 1);
+    Run run = new Run().make("sheet(0, 2, 3); put(0, 0, 7); put(0, 2, 9); sheet(1, 2, 3); put(1, 2, 8)")
+        .due("sheet(0, 2, 3)", 1);
     run.due("item(0, 2, 0)", 0).due("item(0, 2, 2)", 0).due("item(1, 2, 2)", 8).make("put(0, 2, 9); sheet(0, 0, 2)")
         .refuses(-13, "item(0, 2, 0)").refuses(-12, "item(0, 0, 2)").make("sheet(0, 0, 3)").due("item(0, 0, 2)", 0);
     // Missing, then there again.
@@ -83,7 +85,8 @@ final class HostBoundaries {
     new Run().refuses(-1, "put(-1, 0, 1); put(4, 0, 1); put(MIN, 0, 1); put(MAX, 0, 1); put(4, 99, 1)")
         .refuses(-11, "put(0, 0, 1); put(3, 0, 1); put(0, -1, 1); put(0, 99, 1)").make("sheet(2, 1, 3)")
         .refuses(-12, "put(2, -1, 1); put(2, 3, 1); put(2, 40, 1); put(2, MIN, 1); put(2, MAX, 1)")
-        .due("put(2, 0, 5)", 1).due("put(2, 2, 6)", 1).due("item(2, 1, 0)", 5).due("item(2, 1, 1)", 0).due("item(2, 1, 2)", 6);
+        .due("put(2, 0, 5)", 1).due("put(2, 2, 6)", 1).due("item(2, 1, 0)", 5).due("item(2, 1, 1)", 0)
+        .due("item(2, 1, 2)", 6);
   }
 
   private static void narrowed(int sort, long v, long due) {
@@ -117,7 +120,8 @@ final class HostBoundaries {
         // Another sort comes ahead of a place outside.
         String item = "item(2, " + as + ", ";
         if (as != sort) run.refuses(-13, item + "0);" + item + "3);" + item + "-1);" + item + "MIN)");
-        else run.asks(item + "2)", 0).refuses(-12, item + "3);" + item + "-1);" + item + "40);" + item + "MIN);" + item + "MAX)");
+        else run.asks(item + "2)", 0)
+            .refuses(-12, item + "3);" + item + "-1);" + item + "40);" + item + "MIN);" + item + "MAX)");
       }
       run.refuses(-1, "item(2, 4, 0); item(2, -1, 3); item(4, " + sort + ", 0)");
     }
@@ -164,8 +168,10 @@ final class HostBoundaries {
   private static void shelvesOfRules() {
     Sentence.of(35, "(by its number: another one that has it later, too; nothing, if there is no such one any more)");
     Run run = new Run().make("rule(1, 0); keep(); rule(4, 1); shelf(0, 0, 1); shelf(1, 0, 0); again()");
-    run.refuses(-11, "taken(0, 0); taken(0, 4); taken(0, 10)").due("act(0, 0, 5)", 0).due("many(5)", 0).due("taken(1, 1)", 0)
-        .due("rule(3, 2)", 1).due("taken(0, 3)", 1).refuses(-13, "taken(0, 4)").due("act(0, 0, 5)", 6).due("trace(0)", 10);
+    run.refuses(-11, "taken(0, 0); taken(0, 4); taken(0, 10)").due("act(0, 0, 5)", 0).due("many(5)", 0)
+        .due("taken(1, 1)", 0)
+        .due("rule(3, 2)", 1).due("taken(0, 3)", 1).refuses(-13, "taken(0, 4)").due("act(0, 0, 5)", 6)
+        .due("trace(0)", 10);
     // A text leaves rules, and what shelves hold of them.
     run.due("plain()", 0).due("taken(0, 3)", 1);
   }
@@ -175,7 +181,8 @@ final class HostBoundaries {
     new Run().refuses(-1, "taken(-1, 0); taken(4, 0); taken(MIN, 0); taken(MAX, 10)")
         .refuses(-1, "taken(0, -1); taken(0, 6); taken(0, 9); taken(0, 14); taken(0, MIN); taken(0, MAX)")
         .refuses(-11, "taken(0, 0); taken(0, 5); taken(3, 10); taken(3, 13)").make("rule(1, 0); shelf(0, 0, 0)")
-        .refuses(-1, "taken(0, -1); taken(0, 6); taken(0, 9); taken(0, 14); taken(4, 1)").make("sheet(0, 0, 1); shelf(0, 1, 0)")
+        .refuses(-1, "taken(0, -1); taken(0, 6); taken(0, 9); taken(0, 14); taken(4, 1)")
+        .make("sheet(0, 0, 1); shelf(0, 1, 0)")
         .refuses(-1, "taken(0, -1); taken(0, 6); taken(0, 9); taken(0, 14); taken(-1, 10)");
   }
 
@@ -212,7 +219,8 @@ final class HostBoundaries {
 
   /** An act of a rule whose number is 2. */
   private static Run acts(int kind, int a, String act, long due) {
-    return new Run().make("rule(1, 0); rule(1, 0); rule(" + kind + ", " + a + "); shelf(1, 0, 2)").due("act(1, " + act + ")", due);
+    return new Run().make("rule(1, 0); rule(1, 0); rule(" + kind + ", " + a + "); shelf(1, 0, 2)")
+        .due("act(1, " + act + ")", due);
   }
 
   private static void intsThatWrap() {
@@ -232,6 +240,8 @@ final class HostBoundaries {
     acts(2, 65535, "1, -1073741826", MIN - 65535 + 4294967296L);
     // x + 2 wraps ahead of the parting.
     acts(3, 5, "2, MAX", (MIN + 1) / 3 ^ 1);
+    acts(3, 3, "2, MAX", MIN);
+    acts(3, 3, "2, 2147483645", MAX - 1);
     acts(5, 5, "3, 1073741821", ((MAX - 1) ^ 5) * 2 - 4294967296L);
   }
 
@@ -262,7 +272,8 @@ final class HostBoundaries {
     // Numbers beside it.
     acts(1, 1, "2, 9", -9);
     acts(1, 3, "2, 9", 9);
-    new Run().make("rule(1, 0); shelf(0, 0, 0)").due("act(0, 2, 9)", -15).due("act(0, 0, 9)", -9).due("act(0, 2, 0)", -15);
+    new Run().make("rule(1, 0); shelf(0, 0, 0)").due("act(0, 2, 9)", -15).due("act(0, 0, 9)", -9)
+        .due("act(0, 2, 0)", -15);
   }
 
   private static Run traced(Run run, long... bodies) {
@@ -281,6 +292,7 @@ final class HostBoundaries {
     traced(acts(2, 2, "3, 9", -15), 31, 13, 30, 11, 10, 12);
     traced(acts(4, 2, "3, 9", -15), 31, 13, 51, 30, 11, 50, 10, 50, 10, 12);
     Sentence.of(38, "as they began (left first)");
+    traced(acts(1, 5, "3, 4", -12 ^ 5), 13, 11, 20, 10);
     traced(acts(5, 5, "2, 7", (9 / 3 ^ 1) + 14), 60, 40, 12, 11, 10);
     traced(acts(4, 5, "1, 4", 36 - 5 + 12), 51, 30, 11, 50, 10, 50, 10);
     traced(acts(2, 4, "3, 4", (6 * 2 - 4 ^ 4) + 1), 31, 13, 30, 11, 10, 12);
@@ -320,7 +332,8 @@ final class HostBoundaries {
     int[] due = {8, 12, 4, 6, 200, 4, 1};
     for (int what = 0; what < 7; what++) run.due("many(" + what + ")", due[what]);
     Sentence.of(39, "6 whether there is a CITY (1, 0)");
-    Run.on("well 1;").asks("many(6)", 0).make("city(0, 0, 0, 0)").asks("many(6)", 1).due("plain()", 0).asks("many(6)", 0);
+    Run.on("well 1;").asks("many(6)", 0).make("city(0, 0, 0, 0)").asks("many(6)", 1).due("plain()", 0)
+        .asks("many(6)", 0);
   }
 
   private static Run toKeep() {
@@ -335,7 +348,8 @@ final class HostBoundaries {
     run.make("place(0, 0, 0); way(1, 2, 1, 1, 0); set(0, 0); set(6, 1); set(12, 1); rain(9); rule(1, 1); does(0); follow(0, 1)")
         .due("again()", 2).dueFrom0("many(", 2, 1, 2, 0, 0, 0, 1).dueFrom0("cityOf(", 1, 2, 7, 7, 7, 0, 21)
         .dueFrom0("placeOf(0", 2, 1, 98).dueFrom0("placeOf(1", 1, 9, 99).dueFrom0("wayOf(0", 0, 1, 1, 7, 1)
-        .dueFrom0("ruleOf(0", 3, 16, 2).dueFrom0("ruleOf(1", 4, 9, 0).refuses(-1, "placeOf(2, 0); wayOf(1, 0); ruleOf(2, 0)")
+        .dueFrom0("ruleOf(0", 3, 16, 2).dueFrom0("ruleOf(1", 4, 9, 0)
+        .refuses(-1, "placeOf(2, 0); wayOf(1, 0); ruleOf(2, 0)")
         .asks("next(0)", 0).due("set(0, 2)", 2).due("set(6, 15)", 15).due("set(12, 3)", 3).due("rain(5)", 5);
     // A keep changes nothing else, and a plain of a text leaves what is kept.
     Run text = toKeep().make("keep()");
@@ -353,7 +367,8 @@ final class HostBoundaries {
         .due("item(0, 1, 1)", 8).due("taken(0, 12)", 2).due("taken(1, 4)", 1);
     // It stays: it can come again and again, whatever happens to what came.
     run.make("does(0); place(0, 0, 0); set(6, 2); rule(1, 1)").due("again()", 2).due("cityOf(1)", 2).due("many(2)", 2)
-        .due("placeOf(0, 2)", 98).make("city(0, 0, 0, 0)").due("placeOf(0, 2)", 99).due("again()", 2).due("placeOf(0, 2)", 98)
+        .due("placeOf(0, 2)", 98).make("city(0, 0, 0, 0)").due("placeOf(0, 2)", 99).due("again()", 2)
+        .due("placeOf(0, 2)", 98)
         .due("set(6, 0)", 15);
   }
 
@@ -365,7 +380,8 @@ final class HostBoundaries {
 
   private static void keptLatest() {
     Sentence.of(41, "what was kept latest");
-    Run run = toKeep().make("keep(); place(0, 0, 0); does(0)").due("keep()", 1).make("place(0, 0, 0); does(0)").due("again()", 3)
+    Run run = toKeep().make("keep(); place(0, 0, 0); does(0)").due("keep()", 1).make("place(0, 0, 0); does(0)")
+        .due("again()", 3)
         .due("cityOf(1)", 3).due("many(0)", 3).make("keep(); plain()").due("many(0)", 0);
     run.due("again()", 3).due("keep()", 1).due("again()", 3);
     // Numbers of places and rules go on from what was kept.
@@ -376,7 +392,8 @@ final class HostBoundaries {
   private static void keptEmpty() {
     Sentence.of(41, "how many PLACES. NONE");
     // What was kept may be empty, and without a city.
-    Run run = new Run().due("keep()", 1).make("place(1, 1, 1); rule(1, 1); set(7, 5); rain(3); city(0, 9, 9, 9)").due("again()", 0)
+    Run run = new Run().due("keep()", 1).make("place(1, 1, 1); rule(1, 1); set(7, 5); rain(3); city(0, 9, 9, 9)")
+        .due("again()", 0)
         .dueFrom0("many(", 0, 0, 0, 0, 0, 0, 0).refuses(-4, "cityOf(0); does(0)").due("set(7, 0)", 0).due("rain(0)", 0);
     run.due("place(2, 2, 2)", 0).dueFrom0("placeOf(0", 2, 2, 2);
   }

@@ -11,6 +11,7 @@ final class PlainBoundaries {
     noPlacesNoCity();
     nothingKept();
     asAtFirst();
+    theLastCallOfAll();
     kindsOfPlaces();
     givesAndLeft();
     leftOfWells();
@@ -60,10 +61,23 @@ final class PlainBoundaries {
     new Run().due("rain(0)", 0);
   }
 
+  private static void theLastCallOfAll() {
+    Sentence.of(1, "An object is used for at most 512 calls after it has been made");
+    // Whatever is made anew by a call is made so often, and the last call answers as the first one did.
+    Run rules = Run.on("well 9;").make("city(0, 9, 9, 9); keep()"); // 4 calls
+    for (int i = 0; i < 126; i++) rules.due("rule(4, 6)", 0).due("next(0)", 0).due("follow(0, 1)", 1).due("again()", 1);
+    rules.make("rule(2, 7); follow(0, 2); shelf(0, 0, 0)").due("act(0, 1, 5)", 3);
+    Run sheets = new Run();
+    for (int i = 0; i < 128; i++) sheets.make("sheet(3, 3, 40); put(3, 39, 5); shelf(3, 1, 3)").due("item(3, 3, 39)", 5);
+    Run texts = new Run();
+    for (int i = 0; i < 256; i++) texts.make("feed(0x203B37206C6C6577, 8)").due("plain()", 1);
+  }
+
   private static void kindsOfPlaces() {
     Sentence.of(4, "a KIND: 0 place, 1 well, 2 mine, 3 meadow, 4 spring, 5 pit");
     Run run = new Run().refuses(-1, "place(-1, 1, 1); place(6, 1, 1); place(MIN, 1, 1); place(MAX, 1, 1)");
-    for (int kind = 0; kind < 6; kind++) run.due("place(" + kind + ", 1, 1)", kind).due("placeOf(" + kind + ", 0)", kind);
+    for (int kind = 0; kind < 6; kind++) run.due("place(" + kind + ", 1, 1)", kind)
+        .due("placeOf(" + kind + ", 0)", kind);
   }
 
   private static void givesAndLeft() {
@@ -90,7 +104,8 @@ final class PlainBoundaries {
     Sentence.of(4, "THE PLAIN has PLACES, 8 at most, numbered as they come");
     Run run = new Run();
     for (int i = 0; i < 8; i++) run.due("place(2, " + i + ", " + 10 * i + ")", i);
-    run.refuses(-2, "place(0, 0, 0); place(5, 9, 99); place(1, 0, 0)").due("many(0)", 8).dueFrom0("placeOf(7", 2, 7, 70);
+    run.refuses(-2, "place(0, 0, 0); place(5, 9, 99); place(1, 0, 0)").due("many(0)", 8)
+        .dueFrom0("placeOf(7", 2, 7, 70);
     Run.on(WELLS_8).refuses(-2, "place(0, 0, 0)");
     // What was kept makes room again, and so does a text.
     new Run().make("keep()").make("place(0, 0, 0);".repeat(8)).refuses(-2, "place(0, 0, 0)").due("again()", 0)
@@ -151,7 +166,8 @@ final class PlainBoundaries {
 
   private static void fourWaysOfOne() {
     Sentence.of(5, "(of one PLACE there are 4 at most)");
-    Run run = Run.on(WELLS_8).make("way(0, 1, 1, 1, 0); way(2, 0, 1, 1, 0); way(0, 3, 1, 1, 0)").due("way(4, 0, 1, 1, 0)", 3);
+    Run run = Run.on(WELLS_8).make("way(0, 1, 1, 1, 0); way(2, 0, 1, 1, 0); way(0, 3, 1, 1, 0)")
+        .due("way(4, 0, 1, 1, 0)", 3);
     run.refuses(-2, "way(0, 5, 1, 1, 0); way(5, 0, 1, 1, 0)").due("way(5, 6, 1, 1, 0)", 4);
     // The same two may have all four.
     Run same = Run.on(WELLS_8).make("way(1, 0, 1, 1, 0);".repeat(4)).due("many(1)", 4);
@@ -169,7 +185,8 @@ final class PlainBoundaries {
 
   private static void askingPlaces() {
     Sentence.of(6, "what = 0 KIND, 1 GIVES, 2 LEFT now. BAD.");
-    Run.on("mine 3 9;pit 2 8;").refuses(-1, "placeOf(-1, 0); placeOf(2, 0); placeOf(8, 0); placeOf(MIN, 0); placeOf(MAX, 0)")
+    Run.on("mine 3 9;pit 2 8;")
+        .refuses(-1, "placeOf(-1, 0); placeOf(2, 0); placeOf(8, 0); placeOf(MIN, 0); placeOf(MAX, 0)")
         .refuses(-1, "placeOf(0, -1); placeOf(0, 3); placeOf(1, MIN); placeOf(1, MAX)")
         .asks("placeOf(1, 0)", 5).asks("placeOf(1, 1)", 2).asks("placeOf(1, 2)", 8).asks("placeOf(0, 0)", 2);
     Run.on(WELLS_8).refuses(-1, "placeOf(8, 0); placeOf(-1, 2)").asks("placeOf(7, 1)", 1);
@@ -221,7 +238,8 @@ final class PlainBoundaries {
 
   private static void rainIsAnything() {
     Sentence.of(9, "RAIN that is known becomes bits: what it was.");
-    new Run().due("rain(MIN)", 0).due("rain(MAX)", Integer.MIN_VALUE).due("rain(-1)", Integer.MAX_VALUE).due("rain(0)", -1)
+    new Run().due("rain(MIN)", 0).due("rain(MAX)", Integer.MIN_VALUE).due("rain(-1)", Integer.MAX_VALUE)
+        .due("rain(0)", -1)
         .due("rain(-3)", 0).due("rain(-3)", -3);
   }
 

@@ -43,7 +43,8 @@ final class RulesBoundaries {
     Sentence.of(24, "A RULE (kind 1 to 5): its number. BAD; FULL.");
     new Run().refuses(-1, "rule(0, 0); rule(-1, 0); rule(6, 0); rule(MIN, 0); rule(MAX, 0)").due("rule(1, 0)", 0)
         .due("rule(5, 0)", 1).due("ruleOf(0, 0)", 1).due("ruleOf(1, 0)", 5);
-    new Run().due("rule(2, 0)", 0).due("rule(3, 0)", 1).due("rule(4, 0)", 2).due("ruleOf(0, 0)", 2).due("ruleOf(1, 0)", 3)
+    new Run().due("rule(2, 0)", 0).due("rule(3, 0)", 1).due("rule(4, 0)", 2).due("ruleOf(0, 0)", 2)
+        .due("ruleOf(1, 0)", 3)
         .due("ruleOf(2, 0)", 4);
   }
 
@@ -78,7 +79,8 @@ final class RulesBoundaries {
 
   private static void howManyActs() {
     Sentence.of(25, "2 how many ACTS it did");
-    Run run = Run.on("place 0 0;").make("rule(1, 0); rule(1, 0); city(0, 5, 9, 9)").due("follow(0, 0)", 0).due("ruleOf(0, 2)", 0)
+    Run run = Run.on("place 0 0;").make("rule(1, 0); rule(1, 0); city(0, 5, 9, 9)").due("follow(0, 0)", 0)
+        .due("ruleOf(0, 2)", 0)
         .due("follow(0, 2)", 2).due("follow(1, 20)", 3).due("follow(0, 20)", 0);
     run.due("ruleOf(0, 2)", 2).due("ruleOf(1, 2)", 3).make("city(0, 9, 9, 9); does(0)").due("follow(0, 1)", 1)
         .due("ruleOf(0, 2)", 3);
@@ -88,12 +90,14 @@ final class RulesBoundaries {
 
   private static void noSuchRule() {
     Sentence.of(26, "The ACT that a RULE does next. BAD; STATE: there is no CITY.");
-    Run run = Run.on("well 1;").refuses(-1, "next(0); next(-1)").make("rule(1, 0)").refuses(-1, "next(1); next(-1); next(MIN); next(MAX)");
+    Run run = Run.on("well 1;").refuses(-1, "next(0); next(-1)").make("rule(1, 0)")
+        .refuses(-1, "next(1); next(-1); next(MIN); next(MAX)");
     run.refuses(-4, "next(0)").make("city(0, 1, 1, 1)").refuses(-1, "next(1); next(-1); next(4); next(MIN); next(MAX)")
         .asks("next(0)", 0);
     Sentence.of(27, "n ACTS (0 to 20) are done by a RULE, up to the first that can't be: how many. BAD");
     Run.on("well 1;").refuses(-1, "follow(0, 1)").make("rule(1, 0)").refuses(-1, "follow(1, 1); follow(-1, 1)")
-        .make("city(0, 1, 1, 1)").refuses(-1, "follow(1, 1); follow(-1, 1); follow(4, 0); follow(MIN, 1); follow(MAX, 1)");
+        .make("city(0, 1, 1, 1)")
+        .refuses(-1, "follow(1, 1); follow(-1, 1); follow(4, 0); follow(MIN, 1); follow(MAX, 1)");
   }
 
   private static void noCityForRules() {
@@ -117,10 +121,13 @@ final class RulesBoundaries {
     for (int[] d : due)
       Run.on(text).make("rule(2, 0); city(0, " + d[0] + ", " + d[1] + ", " + d[2] + ")").asks("next(0)", d[3]);
     Sentence.of(26, "that is least FAR (the first of several)");
-    Run.on("place 0 0;well 1;spring 1;way 0 2 2 9;way 0 1 2 9;").make("rule(2, 0); city(0, 9, 1, 9)").asks("next(0)", 2);
-    Run.on("place 0 0;well 1;spring 1;way 0 2 1 9;way 0 1 2 9;").make("rule(2, 0); city(0, 9, 1, 9)").asks("next(0)", 1);
+    Run.on("place 0 0;well 1;spring 1;way 0 2 2 9;way 0 1 2 9;").make("rule(2, 0); city(0, 9, 1, 9)")
+        .asks("next(0)", 2);
+    Run.on("place 0 0;well 1;spring 1;way 0 2 1 9;way 0 1 2 9;").make("rule(2, 0); city(0, 9, 1, 9)")
+        .asks("next(0)", 1);
     // By KIND alone: one that gives nothing, is dug out, or can't be reached in these MONTHS counts as well.
-    Run.on("place 0 0;mine 0 0;pit 9 99;way 0 1 1 0;way 0 2 2 9;").make("rule(2, 0); city(0, 0, 9, 9)").asks("next(0)", 1);
+    Run.on("place 0 0;mine 0 0;pit 9 99;way 0 1 1 0;way 0 2 2 9;").make("rule(2, 0); city(0, 0, 9, 9)")
+        .asks("next(0)", 1);
   }
 
   private static void nearHereOrNowhere() {
@@ -139,7 +146,8 @@ final class RulesBoundaries {
         .asks("next(0)", 2);
     Run.on("place 0 0;place 0 0;well 1;way 1 2 1 9;way 0 1 1 9;way 0 2 2 9;").make("rule(2, 0); city(0, 9, 1, 9)")
         .asks("next(0)", 2);
-    Run.on("place 0 0;well 1;way 0 1 2 9;way 0 1 1 9;way 0 1 1 9;").make("rule(2, 0); city(0, 9, 1, 9)").asks("next(0)", 2);
+    Run.on("place 0 0;well 1;way 0 1 2 9;way 0 1 1 9;way 0 1 1 9;").make("rule(2, 0); city(0, 9, 1, 9)")
+        .asks("next(0)", 2);
     // By LONG alone: the least one though it bears no more and is shut.
     Run.on("place 0 0;well 1;way 0 1 1 0 in 5;way 0 1 1 9;").make("rule(2, 0); city(0, 9, 1, 9)").asks("next(0)", 1)
         .due("follow(0, 1)", 0);
@@ -176,7 +184,8 @@ final class RulesBoundaries {
     String text = "place 0 0;mine 2 99;way 0 1 1 9;way 0 1 1 9;";
     String made = "set(3, 2); city(0, 6, 9, 9)";
     for (int a : new int[] {1, 8, 65535}) Run.on(text).make("rule(4, " + a + ");" + made).asks("next(0)", 0);
-    for (int a : new int[] {2, 3, 4, 5, 6, 9, 13, 65533}) Run.on(text).make("rule(4, " + a + ");" + made).asks("next(0)", 1);
+    for (int a : new int[] {2, 3, 4, 5, 6, 9, 13, 65533}) Run.on(text).make("rule(4, " + a + ");" + made)
+        .asks("next(0)", 1);
   }
 
   private static void bestWithoutIt() {
@@ -206,7 +215,8 @@ final class RulesBoundaries {
     Sentence.of(27, "n ACTS (0 to 20) are done by a RULE");
     Run run = Run.on("place 0 0;").eatsNothing().make("rule(1, 0); city(0, 0, 0, 0)");
     run.refuses(-1, "follow(0, -1); follow(0, 21); follow(0, MIN); follow(0, MAX)").asks("follow(0, 0)", 0)
-        .due("follow(0, 1)", 1).due("cityOf(1)", 1).due("follow(0, 20)", 20).due("cityOf(1)", 21).due("ruleOf(0, 2)", 21);
+        .due("follow(0, 1)", 1).due("cityOf(1)", 1).due("follow(0, 20)", 20).due("cityOf(1)", 21)
+        .due("ruleOf(0, 2)", 21);
   }
 
   private static void upToTheFirst() {
@@ -217,16 +227,19 @@ final class RulesBoundaries {
     Run.on("place 0 0;place 0 0;way 0 1 1 2;").make("rule(3, 0x1111); city(0, 9, 9, 9)").due("follow(0, 20)", 2)
         .due("wayOf(0, 3)", 0).due("cityOf(0)", 0).asks("follow(0, 1)", 0);
     // What it does next is asked anew for each: near goes to the well, then stands there.
-    Run.on("place 0 0;well 9;way 0 1 1 9;").make("rule(2, 0); city(0, 9, 5, 9)").due("follow(0, 3)", 3).dueCity(1, 3, 6, 9, 6);
+    Run.on("place 0 0;well 9;way 0 1 1 9;").make("rule(2, 0); city(0, 9, 5, 9)").due("follow(0, 3)", 3)
+        .dueCity(1, 3, 6, 9, 6);
   }
 
   private static void daysOfProve() {
     Sentence.of(28, "ROWS by days (0 to 6): how many. BAD; STATE: there is no CITY");
-    Run run = Run.on("place 0 0;").refuses(-1, "prove(-1); prove(7)").refuses(-4, "prove(0); prove(6)").make("city(0, 9, 9, 9)");
+    Run run = Run.on("place 0 0;").refuses(-1, "prove(-1); prove(7)").refuses(-4, "prove(0); prove(6)")
+        .make("city(0, 9, 9, 9)");
     run.refuses(-1, "prove(-1); prove(7); prove(MIN); prove(MAX)").due("prove(6)", 6).due("many(3)", 6)
         .dueFrom0("row(5", 0, 0, 9).refuses(-1, "prove(-1); prove(7)").due("many(3)", 6);
     // A row of fewer acts than days, and the least: one.
-    Run.on("place 0 0;place 0 0;way 0 1 4 9;").make("set(0, 5); city(0, 4, 9, 9)").due("prove(4)", 1).dueFrom0("row(0", 1, 1, 10)
+    Run.on("place 0 0;place 0 0;way 0 1 4 9;").make("set(0, 5); city(0, 4, 9, 9)").due("prove(4)", 1)
+        .dueFrom0("row(0", 1, 1, 10)
         .refuses(-9, "row(1, 0)");
   }
 
@@ -244,12 +257,14 @@ final class RulesBoundaries {
         .refuses(-9, "row(0, 0)").due("judge()", 0);
     Run.on("place 0 0;").make("city(0, 0, 0, 0)").due("prove(0)", 0);
     // Only rows and nothing else change.
-    Run.on(WITH_A_MINE).make("city(0, 5, 5, 5); prove(3)").due("prove(3)", 3).dueCity(0, 0, 5, 5, 5).due("placeOf(1, 2)", 99);
+    Run.on(WITH_A_MINE).make("city(0, 5, 5, 5); prove(3)").due("prove(3)", 3).dueCity(0, 0, 5, 5, 5)
+        .due("placeOf(1, 2)", 99);
   }
 
   private static void eachTimeTheLeast() {
     Sentence.of(28, "each time of the least number with which it can be: (ACT, the PLACE behind it, the WORTH behind it)");
-    Run.on(WITH_A_MINE).make("city(0, 5, 5, 5)").due("prove(3)", 3).dueFrom0("row(0", 1, 1, 12).dueFrom0("row(1", 0, 1, 14)
+    Run.on(WITH_A_MINE).make("city(0, 5, 5, 5)").due("prove(3)", 3).dueFrom0("row(0", 1, 1, 12)
+        .dueFrom0("row(1", 0, 1, 14)
         .dueFrom0("row(2", 0, 1, 13);
     // By the last act all ways are as good as to stand; HOUSES are worth something in each row.
     Run.on(THERE_AND_BACK).make("set(7, 1); city(0, 9, 9, 9)").due("prove(2)", 2).dueFrom0("row(0", 0, 0, 28)
@@ -259,7 +274,8 @@ final class RulesBoundaries {
   private static void rowsThatThereArent() {
     Sentence.of(29, "-9: there is none such, another what.");
     new Run().refuses(-9, "row(0, 0); row(-1, 0); row(0, 3)");
-    Run.on("place 0 0;").make("city(0, 9, 9, 9); prove(2)").refuses(-9, "row(-1, 0); row(2, 0); row(6, 0); row(MIN, 0); row(MAX, 0)")
+    Run.on("place 0 0;").make("city(0, 9, 9, 9); prove(2)")
+        .refuses(-9, "row(-1, 0); row(2, 0); row(6, 0); row(MIN, 0); row(MAX, 0)")
         .refuses(-9, "row(0, -1); row(0, 3); row(1, MIN); row(1, MAX); row(-1, 3); row(2, 3)").asks("row(1, 2)", 21)
         .asks("row(0, 0)", 0).make("prove(6)").asks("row(5, 2)", 9).refuses(-9, "row(6, 0)");
   }
@@ -273,16 +289,19 @@ final class RulesBoundaries {
     // v may be anything.
     run.due("alterRow(1, 2, MIN)", 21).due("row(1, 2)", Integer.MIN_VALUE).due("alterRow(1, 2, MAX)", Integer.MIN_VALUE)
         .due("alterRow(1, 2, -9)", Integer.MAX_VALUE).due("alterRow(1, 2, 0)", -9).due("row(1, 2)", 0)
-        .due("row(1, 1)", 0).due("row(0, 2)", 24).due("alterRow(0, 1, 5)", 0).due("row(0, 1)", 5).due("alterRow(0, 0, 6)", 0)
+        .due("row(1, 1)", 0).due("row(0, 2)", 24).due("alterRow(0, 1, 5)", 0).due("row(0, 1)", 5)
+        .due("alterRow(0, 0, 6)", 0)
         .due("row(0, 0)", 6).due("many(3)", 2);
     // Also without a city, and other rows than the altered ones come with the next proof.
     run.make("prove(2)").due("row(0, 1)", 0).due("row(1, 2)", 21);
-    new Run().make("keep(); place(0, 0, 0); city(0, 9, 9, 9); prove(2); again()").due("alterRow(1, 2, 7)", 21).due("row(1, 2)", 7);
+    new Run().make("keep(); place(0, 0, 0); city(0, 9, 9, 9); prove(2); again()").due("alterRow(1, 2, 7)", 21)
+        .due("row(1, 2)", 7);
   }
 
   private static void judgedWithoutRows() {
     Sentence.of(31, "0 all is right (also if there are none)");
-    Run.on("place 0 0;").make("city(0, 0, 0, 0)").asks("judge()", 0).make("city(0, 9, 9, 9); prove(6)").asks("judge()", 0)
+    Run.on("place 0 0;").make("city(0, 0, 0, 0)").asks("judge()", 0).make("city(0, 9, 9, 9); prove(6)")
+        .asks("judge()", 0)
         .make("prove(0)").asks("judge()", 0);
   }
 
@@ -290,13 +309,15 @@ final class RulesBoundaries {
     Sentence.of(31, "else the first ROW that isn't, and 1 more");
     for (int i = 0; i < 6; i++)
       for (int what = 0; what < 3; what++)
-        Run.on("well 1;").make("city(0, 9, 9, 9); prove(6); alterRow(" + i + ", " + what + ", 99)").asks("judge()", i + 1);
+        Run.on("well 1;").make("city(0, 9, 9, 9); prove(6); alterRow(" + i + ", " + what + ", 99)")
+            .asks("judge()", i + 1);
     Run.on("well 1;").make("city(0, 9, 9, 9); prove(6); alterRow(4, 2, 99); alterRow(2, 1, 99)").asks("judge()", 3)
         .make("alterRow(2, 1, 0)").asks("judge()", 5);
     // Another act that leads to the same is right.
     Run.on(WITH_A_MINE).make("city(0, 5, 5, 5); prove(3); alterRow(0, 0, 2)").asks("judge()", 0);
     Sentence.of(31, "behind which PLACE and WORTH are as told");
-    Run.on("well 1;").make("city(0, 9, 9, 9); prove(2); alterRow(1, 2, 24)").asks("judge()", 2).make("alterRow(1, 2, 23)")
+    Run.on("well 1;").make("city(0, 9, 9, 9); prove(2); alterRow(1, 2, 24)").asks("judge()", 2)
+        .make("alterRow(1, 2, 23)")
         .asks("judge()", 0).make("alterRow(1, 2, 22)").asks("judge()", 2).make("alterRow(1, 2, 23); alterRow(1, 1, -1)")
         .asks("judge()", 2);
   }
@@ -312,17 +333,20 @@ final class RulesBoundaries {
 
   private static void fromNowOn() {
     Sentence.of(31, "THE READER takes ROWS as ACTS from now on");
-    Run.on("place 0 0;").make("city(0, 9, 9, 9); prove(3); does(0)").asks("judge()", 1).make("city(0, 9, 9, 9)").asks("judge()", 0)
+    Run.on("place 0 0;").make("city(0, 9, 9, 9); prove(3); does(0)").asks("judge()", 1).make("city(0, 9, 9, 9)")
+        .asks("judge()", 0)
         .make("set(8, 2)").asks("judge()", 1).make("set(8, 1)").asks("judge()", 0);
     // A way that has borne meanwhile.
-    Run.on("place 0 0;mine 5 99;way 0 1 1 1;").make("city(0, 5, 5, 5); prove(3)").asks("judge()", 0).make("does(1)").asks("judge()", 1);
+    Run.on("place 0 0;mine 5 99;way 0 1 1 1;").make("city(0, 5, 5, 5); prove(3)").asks("judge()", 0).make("does(1)")
+        .asks("judge()", 1);
   }
 
   private static void judgedWithoutACity() {
     Sentence.of(31, "STATE: there is no CITY.");
     new Run().refuses(-4, "judge()");
     // Rows without a city: what was kept had none.
-    new Run().make("keep(); place(0, 0, 0); city(0, 9, 9, 9); prove(2); again()").due("many(3)", 2).refuses(-4, "judge(); prove(0)")
+    new Run().make("keep(); place(0, 0, 0); city(0, 9, 9, 9); prove(2); again()").due("many(3)", 2)
+        .refuses(-4, "judge(); prove(0)")
         .asks("row(1, 2)", 21);
   }
 }
