@@ -44,6 +44,14 @@ public final class LanguageTest {
   private static final Set<Tree.Kind> FORBIDDEN = Set.of(Tree.Kind.THROW, Tree.Kind.TRY, Tree.Kind.CATCH,
       Tree.Kind.SYNCHRONIZED, Tree.Kind.ASSERT, Tree.Kind.LAMBDA_EXPRESSION, Tree.Kind.MEMBER_REFERENCE);
 
+  private static final Set<Tree.Kind> STEPS = Set.of(Tree.Kind.PREFIX_INCREMENT, Tree.Kind.PREFIX_DECREMENT,
+      Tree.Kind.POSTFIX_INCREMENT, Tree.Kind.POSTFIX_DECREMENT);
+
+  private static final Set<String> NEVER_COMPARED = Set.of("java.lang.String", "java.lang.Integer");
+
+  /** The one method that makes objects. */
+  private static final String MAKER = "newRule";
+
   private int wrong = 0;
   private final Set<String> publicNames = new HashSet<>();
   private final Set<String> face = new TreeSet<>();
@@ -157,14 +165,87 @@ public final class LanguageTest {
     @Override
     public Void visitNewClass(NewClassTree tree, Void none) {
       called(tree, trees.getElement(getCurrentPath()));
+      made(tree);
       return super.visitNewClass(tree, none);
+    }
+
+    @Override
+    public Void visitNewArray(NewArrayTree tree, Void none) {
+      made(tree);
+      return super.visitNewArray(tree, none);
+    }
+
+    /** All calls of a run share one room: but for the rules, things are made with the object itself. */
+    private void made(Tree tree) {
+      boolean behind = method != null && method.getKind() == ElementKind.METHOD;
+      if (behind && !method.getSimpleName().contentEquals(MAKER)) wrong("rule 12: made in " + method + ": " + tree);
+    }
+
+    private String typeOf(Tree tree) {
+      return String.valueOf(trees.getTypeMirror(new TreePath(getCurrentPath(), tree)));
     }
 
     @Override
     public Void visitBinary(BinaryTree tree, Void none) {
       String type = trees.getTypeMirror(getCurrentPath()).toString();
       if (type.equals("java.lang.String")) wrong("rule 10: texts joined by +: " + tree);
+      boolean compares = tree.getKind() == Tree.Kind.EQUAL_TO || tree.getKind() == Tree.Kind.NOT_EQUAL_TO;
+      if (compares && NEVER_COMPARED.contains(typeOf(tree.getLeftOperand()))) wrong("rule 6: " + tree);
       return super.visitBinary(tree, none);
+    }
+
+    @Override
+    public Void visitPrimitiveType(PrimitiveTypeTree tree, Void none) {
+      TypeKind kind = tree.getPrimitiveTypeKind();
+      if (kind == TypeKind.DOUBLE || kind == TypeKind.FLOAT) wrong("no promise asks for a " + kind);
+      return super.visitPrimitiveType(tree, none);
+    }
+
+    private void changed(ExpressionTree target) {
+      if (!(target instanceof ArrayAccessTree)) return;
+      Element row = element(((ArrayAccessTree) target).getExpression());
+      if (row != null && row.getModifiers().contains(Modifier.STATIC)) wrong("rule 5: a static row is changed: " + target);
+    }
+
+    @Override
+    public Void visitAssignment(AssignmentTree tree, Void none) {
+      changed(tree.getVariable());
+      return super.visitAssignment(tree, none);
+    }
+
+    @Override
+    public Void visitCompoundAssignment(CompoundAssignmentTree tree, Void none) {
+      changed(tree.getVariable());
+      return super.visitCompoundAssignment(tree, none);
+    }
+
+    @Override
+    public Void visitUnary(UnaryTree tree, Void none) {
+      if (STEPS.contains(tree.getKind())) changed(tree.getExpression());
+      return super.visitUnary(tree, none);
+    }
+
+    private void loops(Tree loop, ExpressionTree condition) {
+      String asked = condition == null ? "" : condition.toString();
+      if (asked.isEmpty() || asked.equals("true") || asked.equals("(true)")) wrong("rule 9: no end is seen: " + loop);
+    }
+
+    @Override
+    public Void visitForLoop(ForLoopTree tree, Void none) {
+      loops(tree, tree.getCondition());
+      return super.visitForLoop(tree, none);
+    }
+
+    @Override
+    public Void visitWhileLoop(WhileLoopTree tree, Void none) {
+      loops(tree, tree.getCondition());
+      return super.visitWhileLoop(tree, none);
+    }
+
+    @Override
+    public Void visitDoWhileLoop(DoWhileLoopTree tree, Void none) {
+      loops(tree, tree.getCondition());
+      return super.visitDoWhileLoop(tree, none);
     }
 
     @Override
