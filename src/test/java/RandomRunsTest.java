@@ -178,10 +178,22 @@ public final class RandomRunsTest {
     call("city", within(0, places - 1), within(0, 20), within(0, 20), within(0, 20));
   }
 
+  /** A city that eats nothing stands for hundreds of days, so that what comes is near the last day. */
+  private void growOld() {
+    for (int law = 0; law < 6; law++) call("set", law, 0);
+    call("set", 7, 0);
+    call("rule", 1, 0);
+    int camp = oracle.many(2) - 1;
+    int days = random.nextBoolean() ? within(985, 999) : within(0, 999);
+    for (int left = days; left > 0; left -= 20) call("follow", camp, Math.min(20, left));
+    for (int i = 0; i < 3; i++) call("set", within(0, 7), within(0, 5));
+  }
+
   private boolean passes() {
     String[] names = RANGES.keySet().toArray(new String[0]);
     if (random.nextBoolean()) feedText(text());
     else build();
+    if (random.nextInt(10) == 0) growOld();
     while (told.size() < CALLS && !wrong) {
       String name = names[random.nextInt(names.length)];
       // A plain that is lost each few calls would show little of what comes behind it.
